@@ -25,6 +25,7 @@ public final class SuffixTest {
         RunsFinder full = Check.text("1".repeat(48));
         Check.due("common(0, 0) of 48", full.common(0, 0), 48);
         Check.due("common(0, 47) of 48", full.common(0, 47), 1);
+        Check.due("common(47, 0) of 48", full.common(47, 0), 1);
         full.pop(1);
         Check.due("common(0, 1) of 47 of 48", full.common(0, 1), 46);
     }

@@ -17,6 +17,25 @@ final class Check {
         return x;
     }
 
+    /** A new object with the text that the digits tell, which was full of that symbol before. */
+    static RunsFinder textOverLeftovers(String digits, int symbol) {
+        RunsFinder x = text(String.valueOf(symbol).repeat(48));
+        x.pop(48);
+        for (int k = 0; k < digits.length(); k++) {
+            x.push(digits.charAt(k) - '0');
+        }
+        return x;
+    }
+
+    /**
+     * Numbers that are not in least .. most, where these are at least 0 and below 64: the nearest,
+     * the farthest, and such as would come inside if some of their bits were dropped.
+     */
+    static int[] outside(int least, int most) {
+        return new int[] {MIN, MIN + 1, MIN + least, -65536, -256, -64, least - 2, least - 1,
+            most + 1, most + 2, 64, 65, 256, 257, 65536, 65537, 1 << 30, MAX - 1, MAX};
+    }
+
     static void due(String call, long got, long want) {
         if (got != want) {
             wrong++;
@@ -34,20 +53,22 @@ final class Check {
         due(after + ": symbol(" + digits.length() + ")", x.symbol(digits.length()), -1);
     }
 
-    /** Asks for all runs of the text, each told as start, end, period. */
+    /** Asks a new object for all runs of the text, each told as start, end, period. */
     static void dueRuns(String digits, int[]... want) {
-        RunsFinder x = text(digits);
-        String of = " of " + digits;
-        due("runs()" + of, x.runs(), want.length);
+        dueRunsOf("runs of " + digits, text(digits), want);
+    }
+
+    static void dueRunsOf(String of, RunsFinder x, int[]... want) {
+        due(of + ": runs()", x.runs(), want.length);
         for (int run = 0; run < want.length; run++) {
-            due("start(" + run + ")" + of, x.start(run), want[run][0]);
-            due("end(" + run + ")" + of, x.end(run), want[run][1]);
-            due("period(" + run + ")" + of, x.period(run), want[run][2]);
+            due(of + ": start(" + run + ")", x.start(run), want[run][0]);
+            due(of + ": end(" + run + ")", x.end(run), want[run][1]);
+            due(of + ": period(" + run + ")", x.period(run), want[run][2]);
         }
-        for (int run : new int[] {MIN, -1, want.length, want.length + 1, MAX}) {
-            due("start(" + run + ")" + of, x.start(run), -1);
-            due("end(" + run + ")" + of, x.end(run), -1);
-            due("period(" + run + ")" + of, x.period(run), -1);
+        for (int run : outside(0, want.length - 1)) {
+            due(of + ": start(" + run + ")", x.start(run), -1);
+            due(of + ": end(" + run + ")", x.end(run), -1);
+            due(of + ": period(" + run + ")", x.period(run), -1);
         }
     }
 

@@ -9,7 +9,8 @@ final class Model {
     private static final int MOST = 48;
 
     private String text = "";
-    private List<int[]> runs = new ArrayList<>();
+    /** Null until a question needs the runs: most texts are changed again before that. */
+    private List<int[]> runs = null;
 
     int push(int symbol) {
         if (symbol < 0 || symbol > 3) {
@@ -71,7 +72,7 @@ final class Model {
     }
 
     int runs() {
-        return runs.size();
+        return allRuns().size();
     }
 
     int start(int run) {
@@ -87,7 +88,7 @@ final class Model {
     }
 
     int runsAt(int at) {
-        return good(at) ? (int) runs.stream().filter(r -> r[0] <= at && at <= r[1]).count() : -1;
+        return good(at) ? (int) allRuns().stream().filter(r -> r[0] <= at && at <= r[1]).count() : -1;
     }
 
     int squaresFrom(int at) {
@@ -126,12 +127,12 @@ final class Model {
     }
 
     int longest() {
-        return runs.stream().mapToInt(r -> r[1] - r[0] + 1).max().orElse(0);
+        return allRuns().stream().mapToInt(r -> r[1] - r[0] + 1).max().orElse(0);
     }
 
     int power() {
         int most = 0;
-        for (int[] r : runs) {
+        for (int[] r : allRuns()) {
             while (r[1] - r[0] + 1 >= (most + 1) * r[2]) {
                 most++;
             }
@@ -170,6 +171,17 @@ final class Model {
 
     private void change(String now) {
         text = now;
+        runs = null;
+    }
+
+    private List<int[]> allRuns() {
+        if (runs == null) {
+            runs = findRuns();
+        }
+        return runs;
+    }
+
+    private List<int[]> findRuns() {
         List<int[]> found = new ArrayList<>();
         for (int i = 0; i < text.length(); i++) {
             for (int j = i; j < text.length(); j++) {
@@ -180,7 +192,7 @@ final class Model {
             }
         }
         found.sort((a, b) -> a[0] != b[0] ? a[0] - b[0] : a[2] - b[2]);
-        runs = found;
+        return found;
     }
 
     private boolean isRun(int i, int j, int p) {
@@ -215,7 +227,7 @@ final class Model {
     }
 
     private int ofRun(int run, int which) {
-        return run >= 0 && run < runs.size() ? runs.get(run)[which] : -1;
+        return run >= 0 && run < allRuns().size() ? allRuns().get(run)[which] : -1;
     }
 
     private boolean good(int at) {

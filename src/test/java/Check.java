@@ -38,9 +38,13 @@ final class Check {
 
     static void due(String call, long got, long want) {
         if (got != want) {
-            wrong++;
-            System.out.println(call + " answered " + got + ", due is " + want);
+            fault(call + " answered " + got + ", due is " + want);
         }
+    }
+
+    static void fault(String what) {
+        wrong++;
+        System.out.println(what);
     }
 
     /** Asks for the whole text, and for the positions just outside it. */
